@@ -1,3 +1,4 @@
+import java.lang.reflect.Constructor;
 import java.lang.reflect.Field;
 import java.lang.reflect.Member;
 import java.lang.reflect.Method;
@@ -14,6 +15,8 @@ public final class FaceTest {
 
     public static void main(String[] args) {
         theClass();
+        theConstructor();
+        theConstant();
         theMethods();
         theFields();
         DUE.end();
@@ -22,11 +25,28 @@ public final class FaceTest {
     private static void theClass() {
         DUE.due("public final", TREE.getModifiers(), Modifier.PUBLIC | Modifier.FINAL);
         DUE.due("nested classes", TREE.getDeclaredClasses().length, 0);
-        DUE.due("constructors", TREE.getDeclaredConstructors().length, 1);
-        DUE.due("public constructors", TREE.getConstructors().length, 1);
         DUE.due("no package", TREE.getPackageName().isEmpty(), true);
         DUE.due("no parent", TREE.getSuperclass() == Object.class, true);
         DUE.due("interfaces", TREE.getInterfaces().length, 0);
+    }
+
+    private static void theConstructor() {
+        Constructor<?>[] found = TREE.getDeclaredConstructors();
+        DUE.due("constructors", found.length, 1);
+        DUE.due("public constructor", found[0].getModifiers(), Modifier.PUBLIC);
+        DUE.due("arguments of the constructor", found[0].getParameterCount(), 0);
+    }
+
+    private static void theConstant() {
+        Field[] found = TREE.getFields();
+        DUE.due("public fields", found.length, 1);
+        for (Field field : found) {
+            int due = Modifier.PUBLIC | Modifier.STATIC | Modifier.FINAL;
+            DUE.due(field + " is public static final", field.getModifiers(), due);
+            DUE.due(field + " is NONE", field.getName().equals("NONE"), true);
+            DUE.due(field + " is an int", field.getType() == int.class, true);
+        }
+        DUE.due("NONE", VersionTree.NONE, -1);
     }
 
     private static void theMethods() {
@@ -44,6 +64,7 @@ public final class FaceTest {
             if (Modifier.isPublic(method.getModifiers())) {
                 found.add(method.getReturnType() + " " + method.getName() + " "
                     + method.getParameterCount());
+                DUE.due(method + " is public alone", method.getModifiers(), Modifier.PUBLIC);
                 DUE.due(method + " takes ints alone", takesIntsAlone(method), true);
             } else {
                 DUE.due(method + " has its own name", names.contains(method.getName()), false);
@@ -65,9 +86,7 @@ public final class FaceTest {
 
     private static void theFields() {
         for (Field field : TREE.getDeclaredFields()) {
-            boolean open = Modifier.isPublic(field.getModifiers());
             DUE.due(field + " is public or private", publicOrPrivate(field), true);
-            DUE.due(field + " is public as NONE alone is", open, field.getName().equals("NONE"));
             Class<?> type = field.getType();
             Class<?> element = type.isArray() ? type.getComponentType() : type;
             boolean number = element.isPrimitive() && element != float.class && element != double.class;
